@@ -7,6 +7,10 @@ public final class WalkingLaw {
     private static final int MOST_PARISHES = 6;
     private static final int MOST_MEMBERS = 8;
     private static final int MOST_BILLS = 4;
+    private static final int MOST_MILES = 30;
+    private static final int MOST_BEDS = 40;
+    private static final int FASTEST = 9;
+    private static final int FOR_ALL_BILLS = 15;
     private static final int MOST_LINES = 10;
     private static final int MOST_KEPT = 2;
     private static final int MOST_HOURS_AT_ONCE = 99;
@@ -507,7 +511,7 @@ public final class WalkingLaw {
         }
 
         boolean addParish(int length, int mud, int bedsThere) {
-            if (parishes >= MOST_PARISHES || length < 1 || length > 30 || mud > 1 || bedsThere > 40) {
+            if (parishes >= MOST_PARISHES || length < 1 || length > MOST_MILES || mud > 1 || bedsThere > MOST_BEDS) {
                 return false;
             }
             lengths[parishes] = length;
@@ -520,7 +524,8 @@ public final class WalkingLaw {
         }
 
         boolean addMember(int kind, int pace, int mind) {
-            if (members >= MOST_MEMBERS || kind < 0 || kind >= KINDS || pace < 1 || pace > 9 || mind > 15) {
+            if (members >= MOST_MEMBERS || kind < 0 || kind >= KINDS || pace < 1 || pace > FASTEST
+                || mind > FOR_ALL_BILLS) {
                 return false;
             }
             kinds[members] = kind;
@@ -580,7 +585,7 @@ public final class WalkingLaw {
         }
 
         int slowestOf(int set) {
-            int slowest = Integer.MAX_VALUE;
+            int slowest = FASTEST;
             for (int i = 0; i < members; i++) {
                 if ((set >> i & 1) == 1) {
                     slowest = Math.min(slowest, paces[i]);

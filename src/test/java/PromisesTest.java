@@ -4,6 +4,10 @@ public final class PromisesTest {
     private static final int[] WILD = {
         Integer.MIN_VALUE, -1000, -4, -3, -2, 1000, 10001, 65536, Integer.MAX_VALUE - 1, Integer.MAX_VALUE};
 
+    /** All walk a mile an HOUR to an inn of one bed, and leave it one by one, the last behind 223 HOURS. */
+    private static final String ONE_BED = "p26,0,8;p30,0,1;p30,0,8;q8;b1;"
+        + "m0,1,1;m0,1,1;m0,1,1;m0,1,1;m0,1,1;m0,1,1;m0,1,1;m0,1,1;";
+
     private static int checked = 0;
     private static int wrong = 0;
     private static int promise = 0;
@@ -244,6 +248,12 @@ public final class PromisesTest {
         put(z, "p8,0,9;m0,3,15;");
         z.lay();
         due("one without", z.count(8), 1);
+        WalkingLaw carted = laid("p9,0,9;m1,9,15;m5,9,15;m4,9,15;m3,9,0;");
+        carted.wipe();
+        put(carted, "p9,0,9;m0,9,15;m0,9,15;m0,9,15;m0,9,15;");
+        carted.lay();
+        carted.lay();
+        due("the kinds are new", carted.voices(0, 0, 0), 4);
         due("four without", z.count(2), 4);
         due("the road is new", z.count(4), 8);
     }
@@ -307,6 +317,12 @@ public final class PromisesTest {
                 {18, 18, 18, 18, 7, 14, 18}});
         milesBy("p1,0,9;p5,1,9;p9,0,9;m2,9,0;m2,3,0;m2,2,0;",
             new int[][] {{9, 3, 2}, {15, 4, 3}, {15, 5, 4}, {15, 6, 5}, {15, 9, 6}});
+        String many = "m0,9,0;m0,8,0;m0,7,0;m0,6,0;m1,5,0;m2,4,0;m3,3,0;m4,3,0;";
+        WalkingLaw eight = laid("p1,0,8;p2,1,8;p3,0,8;p4,1,8;p5,0,8;p6,1,8;b4;q8;" + many);
+        int[] ends = {0, 0, 3, 4, 4, 5, 8, 8};
+        for (int h = 0; h < ends.length; h++) {
+            due("eight at the END", eight.hours(1), ends[h]);
+        }
         WalkingLaw x = laid("p9,0,9;p9,0,9;m0,9,0;m0,6,0;m0,1,0;");
         due("none at the END", x.hours(1), 0);
         due("one at the END", x.hours(1), 1);
@@ -387,6 +403,8 @@ public final class PromisesTest {
         voicesDue(after(0, "p9,0,9;m4,3,0;m5,3,1;"), 0, 0, 1, 0, 1);
         voicesDue(after(0, "p9,0,9;m4,3,1;m5,3,0;"), 0, 0, 0, 1, 0);
         voicesDue(after(0, "p9,0,9;m4,3,1;m3,3,0;m0,3,1;"), 0, 0, 2, 1, 1);
+        voicesDue(after(0, "p9,0,9;m0,3,1;m4,3,0;m0,3,0;"), 0, 0, 2, 1, 1);
+        voicesDue(after(0, "p9,0,9;m0,3,0;m4,3,1;m0,3,1;"), 0, 0, 1, 2, 0);
         voicesDue(after(0, "p9,0,9;m0,3,1;m0,3,0;"), 0, 0, 1, 1, 0);
         voicesDue(after(0, "p9,0,9;m5,3,1;"), 0, 0, 0, 0, 0);
         voicesDue(after(0, "p9,0,9;m0,3,1;q2;"), 0, 0, 1, 0, 0);
@@ -544,6 +562,12 @@ public final class PromisesTest {
         String slow = "p30,0,9;p30,0,9;p30,0,9;p30,0,9;p30,0,9;p30,0,9;m0,1,0;";
         due("180 hours", after(0, slow).arrives(), 180);
         due("81 hours", after(99, slow).arrives(), 81);
+        due("one by one", after(0, ONE_BED).arrives(), 253);
+        String lame = "m2,2,1;m2,2,1;m2,2,1;m2,2,1;m2,2,1;m2,2,1;m2,2,1;m2,2,1;";
+        String inns = "p28,1,8;p13,0,0;p30,1,1;p12,0,0;p27,1,1;";
+        due("399 hours", after(0, inns + "p26,0,8;" + lame).arrives(), 399);
+        due("400 hours", after(0, inns + "p28,0,8;" + lame).arrives(), 400);
+        due("401 hours", after(0, inns + "p29,0,8;" + lame).arrives(), NONE);
     }
 
     private static void would() {
@@ -564,9 +588,10 @@ public final class PromisesTest {
         for (int n : WILD) {
             due("wild", y.would(n), BAD);
         }
-        // Two against one behind the first night: the mind of the one is changed.
-        due("minds ahead", after(0, "p5,0,9;p5,0,9;p9,0,9;m5,1,0;m0,1,1;m0,9,0;").would(0), 3);
-        due("the 200th hour counts", after(0, "p30,0,9;p30,0,9;p30,0,9;m0,1,0;").would(0), 0);
+        // The two silent ones bring him round behind the first night.
+        due("minds ahead", after(0, "p8,0,9;p9,0,9;m0,1,0;m5,1,1;m5,1,1;").would(0), 2);
+        due("the 200th hour counts", after(23, ONE_BED).would(0), 7);
+        due("the 201st does not", after(22, ONE_BED).would(0), 3);
     }
 
     private static void order() {
@@ -608,6 +633,21 @@ public final class PromisesTest {
         due("i", y.order(0), 1);
         due("i", y.order(1), 0);
         due("i", y.order(2), 2);
+        y = laid("p1,0,9;p1,0,9;m0,1,15;b4;");
+        y.read(0);
+        y.read(1);
+        y.read(2);
+        int[] lastFirst = {3, 0, 1, 2};
+        due("the last must go first", y.order(-1), 4);
+        for (int i = 0; i < 4; i++) {
+            due("the last must go first", y.order(i), lastFirst[i]);
+        }
+        due("none is for it", after(0, "p9,0,9;m5,1,15;b2;").order(-1), 0);
+        y = laid("p9,0,9;m0,1,2;b2;");
+        due("each once", y.order(-1), 1);
+        due("each once", y.order(0), 0);
+        due("the 200th hour counts", after(23, ONE_BED).order(-1), 1);
+        due("the 201st does not", after(22, ONE_BED).order(-1), 0);
         y = laid("p9,0,9;m0,1,15;b1;");
         due("one bill", y.order(-1), 1);
         due("one bill", y.order(0), 0);
@@ -642,6 +682,10 @@ public final class PromisesTest {
         due("nothing is read now", after(0, "p1,0,9;p1,0,9;m0,1,0;").back(0), 100);
         // In the first of these HOURS, the night's, he is sent back even if he stood still.
         due("a night", after(7, "p6,0,9;p2,0,0;m0,1,1;").back(0), 100);
+        // An HOUR late he needs the bed for a night more, and the last one comes eight HOURS later.
+        due("the 200th hour counts", after(23, ONE_BED).back(0), 99);
+        due("the 201st does not", after(22, ONE_BED).back(0), 100);
+        due("the last one waits anyhow", after(23, ONE_BED).back(7), 100);
     }
 
     private static void partiesDue(WalkingLaw x, int p, int[] want) {
@@ -753,6 +797,9 @@ public final class PromisesTest {
         x.read(0);
         due("as it was laid", x.wrong(), 2 + 8 + 32 + 128 + 512);
         due("nothing went by", x.count(3), 50);
+        WalkingLaw first = laid("p9,0,9;p9,0,9;m0,3,15;");
+        first.diary(0, 1, 0);
+        due("the first line", first.wrong(), 1);
         WalkingLaw y = laid("p7,0,9;p9,0,0;m0,1,0;");
         y.diary(0, 1, 7);
         y.diary(0, 1, 8);
@@ -789,6 +836,7 @@ public final class PromisesTest {
         due("21 more is too far", lateBy(slow, new int[][] {{0, 2, 8}}), 0);
         WalkingLaw y = laid("p7,0,9;p9,0,0;m0,1,0;");
         due("behind 400", lateBy(y, new int[][] {{0, 0, 400}, {0, 1, 1}}), 8);
+        due("up to 420", lateBy(slow, new int[][] {{0, 2, 400}, {0, 1, 0}}), 20);
         due("up to 400", lateBy(y, new int[][] {{0, 0, 397}}), 3);
         y.hours(9);
         due("as it was laid", lateBy(y, new int[][] {{0, 0, 397}}), 3);
@@ -820,6 +868,11 @@ public final class PromisesTest {
         due("nothing went by", y.count(3), 9);
         due("two in two parishes", after(0, "p1,0,9;p9,0,9;m0,1,0;q2;").year(1), 0);
         // Mile 180 lies 180 HOURS ahead, within the 200.
+        due("the second alone has a voice", after(0, "p9,0,9;m5,3,0;m0,3,0;").year(0), 15);
+        due("the third alone has a voice", after(0, "p9,0,9;m5,3,0;m5,3,0;m0,3,0;").year(0), 11);
+        String seven = "m0,1,0;m0,1,0;m0,1,0;m0,1,0;m0,1,0;m0,1,0;m0,1,0;b1;q8;";
+        due("all are there behind 200", after(0, "p16,1,8;p30,0,1;p30,0,8;" + seven + "m2,2,0;").year(0), 1);
+        due("all are there behind 201", after(0, "p16,0,8;p24,0,1;p30,0,8;" + seven + "m0,1,0;").year(0), 0);
         due("a long road", after(0, "p30,0,9;p30,0,9;p30,0,9;p30,0,9;p30,0,9;p30,0,9;m0,1,0;").year(1), 3);
     }
 
