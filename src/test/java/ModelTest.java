@@ -4,7 +4,9 @@ import java.util.List;
 /** Holds WalkingLaw against a model in plain words, by runs of calls drawn by a fixed row of numbers. */
 public final class ModelTest {
     private static final int RUNS = 600;
-    private static final int CALLS = 512;
+    /** Behind so many calls of one object nothing is promised. */
+    private static final int MOST_CALLS = 512;
+    private static final int MOST_IN_A_STEP = 3;
 
     public static void main(String[] args) {
         long calls = 0;
@@ -38,7 +40,7 @@ public final class ModelTest {
         }
 
         int go() {
-            for (int call = 0; call < CALLS; call++) {
+            while (told.size() + MOST_IN_A_STEP <= MOST_CALLS) {
                 if (!step()) {
                     for (int k = Math.max(0, told.size() - 80); k < told.size(); k++) {
                         System.out.println("run " + number + ": " + told.get(k));
@@ -46,7 +48,7 @@ public final class ModelTest {
                     return -1;
                 }
             }
-            return CALLS;
+            return told.size();
         }
 
         private boolean same(String call, int got, int want) {
