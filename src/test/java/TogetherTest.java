@@ -31,6 +31,7 @@ public final class TogetherTest {
         asLaidWhateverWentBy();
         hiredAndSilentInYears();
         everyMemberCounts();
+        everyKindCounts();
         everyLineCounts();
         askingChangesNothing();
         eachCallChangesWhatIsTold();
@@ -249,6 +250,17 @@ public final class TogetherTest {
         WalkingLaw x = after(8, "p9,0,9;q8;m0,1,1;m0,1,1;m0,1,0;");
         due("won by two", x.member(2, 2), 1);
         due("nothing passes", x.read(0), 0);
+        part = "what a MEMBER is for stays as told, however many BILLS there are";
+        for (String text : new String[] {"p9,0,9;m0,1,15;m0,1,13;b1;", "b1;p9,0,9;m0,1,15;m0,1,13;", "b4;m0,1,15;b2;m0,1,13;p9,0,9;b1;"}) {
+            WalkingLaw z = laid(text);
+            due(text, z.member(0, 2), 15);
+            due(text, z.member(1, 2), 13);
+            due("one BILL", z.count(2), 1);
+            due("no second", z.bill(1, 0), BAD);
+        }
+    }
+
+    private static void everyKindCounts() {
         part = "ARRIVES: all, of whatever KIND";
         int[] hours = {9, 3, 9, 9, 9, 9};
         for (int kind = 0; kind < hours.length; kind++) {
@@ -257,13 +269,25 @@ public final class TogetherTest {
             due("all at the END", y.hours(hours[kind]), 2);
             due("he as the first of them", laid("p9,0,9;m" + kind + ",1,0;m0,9,0;").arrives(), hours[kind]);
         }
-        part = "what a MEMBER is for stays as told, however many BILLS there are";
-        for (String text : new String[] {"p9,0,9;m0,1,15;m0,1,13;b1;", "b1;p9,0,9;m0,1,15;m0,1,13;", "b4;m0,1,15;b2;m0,1,13;p9,0,9;b1;"}) {
-            WalkingLaw z = laid(text);
-            due(text, z.member(0, 2), 15);
-            due(text, z.member(1, 2), 13);
-            due("one BILL", z.count(2), 1);
-            due("no second", z.bill(1, 0), BAD);
+        for (int kind = 0; kind < 6; kind++) {
+            part = "of those in a PARISH each counts, here one of KIND " + kind;
+            WalkingLaw x = after(8, "p4,0,9;p30,0,1;m0,1,1;m" + kind + ",1,1;");
+            due("he needs a bed", x.member(1, 3), 3);
+            due("the other has one", x.member(0, 3), 8);
+            x = after(8, "p4,0,9;p30,0,1;m" + kind + ",1,1;m0,1,1;");
+            due("he has the bed", x.member(1, 3), 3);
+            x = laid("p9,0,9;q2;m0,1,1;m" + kind + ",1,1;");
+            due("he is one of two", x.read(0), 1);
+            x = laid("p9,0,9;q3;m0,1,1;m" + kind + ",1,1;");
+            due("he is not two", x.read(0), 0);
+            x = after(8, "p9,0,9;m0,1,0;m" + kind + ",1,1;m" + kind + ",1,1;");
+            due("two of them win one", x.member(0, 2), 1);
+            x = after(8, "p9,0,9;m" + kind + ",1,0;m0,1,1;m0,1,1;");
+            due("he is won by two", x.member(0, 2), 1);
+            x = laid("p9,0,9;m" + kind + ",3,0;m0,2,0;");
+            due("one PARTY", x.parties(0, -1), 1);
+            due("it is his", x.parties(0, 0), 1);
+            due("and not the other's", x.parties(0, 1), 0);
         }
     }
 
